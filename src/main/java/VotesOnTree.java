@@ -1165,7 +1165,7 @@ public final class VotesOnTree {
             return true;
         }
 
-        /** Opens as many of the tokens that stand here as may be open: how many. One too many stays, and fits nowhere. */
+        /** Opens such tokens as far as they may be open: how many. One too many stays, and fits nowhere. */
         private int opensAll(int due) {
             int before = open;
             while (open < MOST_OPEN && token == due) {

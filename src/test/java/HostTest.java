@@ -47,6 +47,12 @@ public final class HostTest {
     D.due("no node by 0 0 5", comes(x, 1, 2, 0), 0);
     x.sheet(1, 2, 3);
     D.due("all are 0 again", comes(x, 1, 2, 0), 1);
+    for (int i = 0; i < 40; i++) {
+      x.sheet(1, 0, 40);
+      x.cell(1, i, 99);
+      x.sheet(1, 0, 40);
+      D.due("item " + i + " is 0 again", comes(x, 1, 0, Math.min(i, 37)), 1);
+    }
   }
 
   private static void sheetRefuses() {

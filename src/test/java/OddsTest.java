@@ -4,7 +4,7 @@ import java.math.BigInteger;
 public final class OddsTest {
   private static final int BAD = VotesOnTree.BAD, STATE = VotesOnTree.STATE, NONE = VotesOnTree.NONE;
   private static final long NO = VotesOnTree.NO;
-  private static final int FORK = 0, TWINS = 4;
+  private static final int MISTLE = 2, TWINS = 4;
   private static final Dues D = new Dues();
 
   public static void main(String[] args) {
@@ -173,6 +173,9 @@ public final class OddsTest {
     turnsDue(y, 1, 1, 2);
     turnsDue(y, 2, 0, 1);
     turnsDue(y, 3, 1, 1);
+    D.scene("promise 19, the other one plays well too");
+    VotesOnTree z = Dues.oak(0, 0, 1, 0, 0, 1, 0, MISTLE, 0);
+    turnsDue(z, 2, 1, 3);
     D.due("count(1), nothing is cut", y.count(1), 4);
   }
 
@@ -263,7 +266,7 @@ public final class OddsTest {
     VotesOnTree second = Dues.oak(0, 0, 0, 0, TWINS, 0);
     int[] seeds = {0, 1, 2, 3, 5, 17, 99, 1000, -1, -2, -77, Integer.MAX_VALUE, Integer.MIN_VALUE, 123456789};
     for (int seed : seeds) {
-      for (int odds = 0; odds <= 100; odds += 20) {
+      for (int odds = 0; odds <= 100; odds++) {
         one.set(2, 1, odds);
         second.set(2, 2, odds);
         D.due("one of " + odds + ": drawn(" + seed + ")", one.drawn(seed), lot(seed, odds));
@@ -284,11 +287,14 @@ public final class OddsTest {
     D.scene("promise 22");
     VotesOnTree x = Dues.oak(0, 0, 0);
     int[] seeds = {0, 7, -3, Integer.MAX_VALUE - 2};
+    int[] odds = {50, 13, 37, 80};
     for (int seed : seeds) {
       for (int n = 1; n <= 20; n++) {
+        int of = odds[n % odds.length];
+        x.set(2, 1, of);
         int yes = 0;
         for (int k = 0; k < n; k++) {
-          yes += lot(seed + k, 50);
+          yes += lot(seed + k, of);
         }
         int divisor = BigInteger.valueOf(yes).gcd(BigInteger.valueOf(n)).intValue();
         D.due("chance(" + seed + ", " + n + ", 0)", x.chance(seed, n, 0), yes / divisor);

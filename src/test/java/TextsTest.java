@@ -97,6 +97,12 @@ public final class TextsTest {
     fault("costs 1\r;", 7);
     fault("costs costs;", 6);
     fault("costs nodes;", 6);
+    fault("costs nodez;", 6);
+    fault("costs anode;", 6);
+    fault("costs xode;", 6);
+    fault("costs nodx;", 6);
+    fault("costs z;", 6);
+    fault("zosts 1;", 0);
     fault("costs 1#", 7);
     fault("costs 1;#", 8);
     fault("costs 1;falls 1;worth 1;#", 24);

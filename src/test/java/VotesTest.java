@@ -265,6 +265,14 @@ public final class VotesTest {
     for (int node : bad) {
       D.due("counts(" + node + ")", mistle.counts(node), BAD);
     }
+    VotesOnTree eleven = new VotesOnTree();
+    for (int i = 0; i < 11; i++) {
+      eleven.grow(0, FORK, i % 2);
+    }
+    for (int node = 1; node <= 11; node++) {
+      D.due("eleven forks: counts(" + node + ")", eleven.counts(node), 504);
+    }
+    D.due("eleven forks: counts(NONE)", eleven.counts(NONE), 1);
     D.due("no twigs: counts(NONE)", new VotesOnTree().counts(NONE), 1);
     D.due("no twigs: counts(0)", new VotesOnTree().counts(0), BAD);
     VotesOnTree hollow = Dues.oak(0, HOLLOW, 0, 1, FORK, 0);
