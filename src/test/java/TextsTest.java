@@ -97,6 +97,16 @@ public final class TextsTest {
     fault("costs 1\r;", 7);
     fault("costs costs;", 6);
     fault("costs nodes;", 6);
+    fault("costs 1 or;", 10);
+    fault("costs 1 <;", 9);
+    fault("costs 1 =;", 9);
+    fault("costs 1 -;", 9);
+    fault("costs (1 or);", 11);
+    fault("costs (1 <);", 10);
+    fault("costs 1 worth 1;", 8);
+    fault("costs 1 falls 1;", 8);
+    fault("costs 1;falls 1;or 1;", 16);
+    fault("costs 1;or 1;", 8);
     fault("costs nodez;", 6);
     fault("costs anode;", 6);
     fault("costs xode;", 6);

@@ -187,9 +187,11 @@ public final class TreeTest {
       for (int number = 0; number <= 1; number++) {
         int[] due = {last, 0, 1 - last, number, 1 - last, 1 - last};
         for (int kind = FORK; kind <= GRAFTED; kind++) {
-          VotesOnTree x = Dues.oak(0, kind, 10 * number, 1, FORK, 1, 1, FORK, 0);
+          VotesOnTree x = Dues.oak(0, kind, 10 * number, 1, FORK, 0, 1, FORK, 1);
           x.set(3, 1, last);
           D.due("kind " + kind + ", NUMBER " + number + ", LAST " + last + ": told(1, 8)", x.told(1, 8), due[kind]);
+          D.due("kind " + kind + ": told(2, 8)", x.told(2, 8), 0);
+          D.due("kind " + kind + ": told(3, 8)", x.told(3, 8), 1);
           D.due("kind " + kind + ": told(0, 8)", x.told(0, 8), x.told(1, 9) == 0 ? 0 : due[kind]);
         }
       }
@@ -234,6 +236,7 @@ public final class TreeTest {
       D.due("asks(" + node + ", 1)", x.asks(node, 1), depth[node] * 5);
       D.due("asks(" + node + ", 2)", x.asks(node, 2), 1);
     }
+    D.due("asks(0, 0) of a trunk with one twig", Dues.oak(0, 0, 0).asks(0, 0), 4);
     D.due("asks(0, 0) of a trunk alone", new VotesOnTree().asks(0, 0), 1);
   }
 
