@@ -262,10 +262,10 @@ public final class OddsTest {
 
   private static void drawnBySeed() {
     D.scene("promise 21");
-    VotesOnTree one = Dues.oak(0, 0, 0);
-    VotesOnTree second = Dues.oak(0, 0, 0, 0, TWINS, 0);
     int[] seeds = {0, 1, 2, 3, 5, 17, 99, 1000, -1, -2, -77, Integer.MAX_VALUE, Integer.MIN_VALUE, 123456789};
     for (int seed : seeds) {
+      VotesOnTree one = Dues.oak(0, 0, 0);
+      VotesOnTree second = Dues.oak(0, 0, 0, 0, TWINS, 0);
       for (int odds = 0; odds <= 100; odds++) {
         one.set(2, 1, odds);
         second.set(2, 2, odds);
@@ -274,6 +274,7 @@ public final class OddsTest {
         D.due("the second of " + odds + ": drawn(" + seed + ")", second.drawn(seed), lot(next, odds));
       }
     }
+    VotesOnTree second = Dues.oak(0, 0, 0, 0, TWINS, 0);
     second.cut(1);
     second.set(2, 2, 50);
     D.due("what doesn't stand draws nothing: drawn(8)", second.drawn(8), lot(8, 50));

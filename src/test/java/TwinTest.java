@@ -7,6 +7,7 @@ import java.util.Random;
 
 /** Random runs of calls on VotesOnTree and on its twin: every answer must be alike. Argument: how many runs. */
 public final class TwinTest {
+  private static final int MOST_CALLS = 512;
   private static final int[] EDGES = {Integer.MIN_VALUE, Integer.MAX_VALUE, -2, -1, 40, 41, 99, 100, 101, 160, 255, 256};
   private static final String[] BITS = {"costs", "falls", "worth", "or", "and", "not", "node", "depth", "kids", "twigs", "last",
     "year", "(", ")", ";", "+", "-", "*", "<", "=", " ", "\n", "7", "12345", "nod", "#", "not ", "-", "(", "((((", "not not "};
@@ -16,6 +17,8 @@ public final class TwinTest {
   private final Twin other = new Twin();
   private final List<String> run = new ArrayList<>();
   private boolean alike = true;
+  /** How many calls the object has had: nothing is promised behind the 512th. */
+  private int calls = 0;
 
   private TwinTest(long seed) {
     random = new Random(seed);
@@ -44,7 +47,7 @@ public final class TwinTest {
     // Some oaks are broad, some deep: parents are among all nodes, or the first ones, or the last ones.
     int shape = random.nextInt(3);
     for (int i = random.nextInt(12); i > 0; i--) {
-      int size = one.count(0), some = Math.min(size, 2);
+      int size = other.count(0), some = Math.min(size, 2);
       int parent = shape == 0 ? random.nextInt(size) : shape == 1 ? random.nextInt(some) : size - 1 - random.nextInt(some);
       call("grow", parent, random.nextInt(6), random.nextInt(10) * 10 * random.nextInt(2) + random.nextInt(2));
     }
@@ -52,7 +55,7 @@ public final class TwinTest {
     for (int i = 0; i < 60 && alike; i++) {
       switch (random.nextInt(16)) {
         case 0: if (random.nextBoolean()) tellText(); break;
-        case 1: call("force", random.nextInt(one.count(3))); break;
+        case 1: call("force", random.nextInt(other.count(3))); break;
         case 2: call("set", random.nextInt(5), anyNode(), random.nextInt(2)); break;
         case 3: call("set", 2, anyNode(), random.nextInt(101)); break;
         case 4: tellSheet(); break;
@@ -67,7 +70,7 @@ public final class TwinTest {
   }
 
   private int anyNode() {
-    return random.nextInt(one.count(0));
+    return random.nextInt(other.count(0));
   }
 
   private void goodCall() throws Exception {
@@ -132,7 +135,7 @@ public final class TwinTest {
       call("feed", text.charAt(i));
     }
     call("text");
-    if (random.nextBoolean()) call("force", one.count(3) - 1);
+    if (random.nextBoolean()) call("force", other.count(3) - 1);
   }
 
   private String anyE(int deep) {
@@ -152,7 +155,8 @@ public final class TwinTest {
   }
 
   private void call(String name, int... args) throws Exception {
-    if (!alike) return;
+    if (!alike || calls >= MOST_CALLS) return;
+    calls++;
     Class<?>[] types = new Class<?>[args.length];
     Object[] boxed = new Object[args.length];
     StringBuilder told = new StringBuilder(name);
