@@ -109,7 +109,11 @@ public final class EdgesTest {
       D.due("count(1)", x.count(1), at);
       D.due("the trunk always does", x.told(0, 6), 1);
       for (int node = 1; node < 12; node++) {
-        D.due("told(" + node + ", 6)", x.told(node, 6), node < at ? 1 : 0);
+        boolean stands = node < at;
+        D.due("told(" + node + ", 6)", x.told(node, 6), stands ? 1 : 0);
+        D.due("told(" + node + ", 7)", x.told(node, 7), node == at - 1 ? 1 : 0);
+        D.due("told(" + node + ", 8)", x.told(node, 8), stands ? 0 : NONE);
+        D.due("told(" + node + ", 9)", x.told(node, 9), stands ? 1 : 0);
       }
       D.due("graft(" + at + ")", x.graft(at), 12 - at);
       D.due("count(1)", x.count(1), 12);
@@ -276,6 +280,19 @@ public final class EdgesTest {
   }
 
   private static void namesFromLeastToMost() {
+    D.scene("TEXT 0, at first THE RULE");
+    VotesOnTree first = Dues.oak(0, FORK, 0, 1, FORK, 0, 1, FORK, 0, 3, FORK, 0, 3, FORK, 0);
+    int[][] prices = {{10, 0, 1}, {10, 5, 1}, {4, 10, 1}, {7, 10, 1}, {4, 15, 1}, {4, 15, 1}};
+    for (int node = 0; node < prices.length; node++) {
+      for (int what = 0; what <= 2; what++) {
+        D.due("asks(" + node + ", " + what + ")", first.asks(node, what), prices[node][what]);
+      }
+    }
+    VotesOnTree bare = new VotesOnTree();
+    int[] trunk = {1, 0, 1};
+    for (int what = 0; what <= 2; what++) {
+      D.due("a trunk alone: asks(0, " + what + ")", bare.asks(0, what), trunk[what]);
+    }
     D.scene("node, depth, kids, twigs, last, year");
     VotesOnTree row = chain(12);
     Dues.rule(row, "costs node;falls depth;worth twigs*10+kids;");
@@ -480,6 +497,10 @@ public final class EdgesTest {
     D.due("ten forks and a MISTLE: counts(10)", last.counts(10) == last.counts(1) ? 1 : 0, 1);
     D.due("the MISTLE counts more", last.counts(11) > last.counts(10) ? 1 : 0, 1);
     D.due("counts(NONE)", last.counts(NONE), 0);
+    VotesOnTree second = Dues.oak(0, FORK, 0, 0, MISTLE, 0, 0, FORK, 0);
+    D.due("the second alone counts otherwise: counts(NONE)", second.counts(NONE), 0);
+    VotesOnTree first = Dues.oak(0, MISTLE, 0, 0, FORK, 0, 0, FORK, 0);
+    D.due("the first alone counts otherwise: counts(NONE)", first.counts(NONE), 0);
     VotesOnTree minds = star(3, FORK, 0);
     minds.set(1, 1, 1);
     D.due("as MINDS are now does not matter: counts(1)", minds.counts(1), 4);
@@ -576,6 +597,12 @@ public final class EdgesTest {
     D.due("9", x.prop(), STATE);
     x.cut(1);
     D.due("8 again", x.prop(), 3);
+    D.scene("PROP: of like ones the first, also where it is likely by none");
+    VotesOnTree never = Dues.oak(0, TWINS, 0, 0, FORK, 1, 0, FORK, 1, 0, FORK, 1, 0, FORK, 1, 0, FORK, 1);
+    Dues.rule(never, "costs 1;falls (1<node)*100;worth 1;");
+    D.due("5 to 4 now, 1 to 4 at most then: prop()", never.prop(), 1);
+    never.cut(1);
+    D.due("the twins are gone: prop()", never.prop(), 2);
     D.scene("PROP: that THE LAW is as it is now, also no");
     VotesOnTree no = Dues.oak(0, FORK, 1, 0, FORK, 0, 0, FORK, 0);
     no.set(3, 0, 1);

@@ -95,6 +95,21 @@ public final class TextEdgesTest {
     D.due("a shorter one behind a longer", Dues.text(x, "costs 2" + REST), 2);
     x.force(2);
     D.due("asks(0, 0)", x.asks(0, 0), 2);
+    D.due("many digits", Dues.text(x, "costs 12345678"), -106);
+    D.due("fewer of them", Dues.text(x, "costs 12"), -108);
+    D.due("a long word", Dues.text(x, "costs nodesnodes"), -106);
+    D.due("the beginning of it", Dues.text(x, "costs node"), -110);
+    D.due("blanks", Dues.text(x, "costs          "), -115);
+    D.due("fewer of them", Dues.text(x, "costs  "), -107);
+    D.scene("a full TAPE that ends in a NUMBER, a WORD, a blank");
+    fault(filled("costs 1;falls 1;worth", 159) + "1", 160);
+    fault(filled("costs 1;falls 1;worth", 156) + "9999", 160);
+    fault(filled("costs 1;falls 1;worth", 155) + "99999", 155);
+    fault(filled("costs 1;falls 1;worth", 156) + "node", 160);
+    fault(filled("costs 1;falls 1;worth", 157) + "nod", 157);
+    fault(filled("costs 1;falls 1;worth", 160), 160);
+    good(filled("costs 1;falls 1;worth 1", 159) + ";");
+    good(filled("costs 1;falls 1;worth 1;", 159) + "\n");
   }
 
   private static void sixTexts() {
@@ -247,6 +262,9 @@ public final class TextEdgesTest {
         fault("costs " + name.substring(i) + REST, 6);
       }
       fault("costs " + name + "s" + REST, 6);
+      for (int i = 0; i < name.length(); i++) {
+        fault("costs " + name.substring(0, i) + "x" + name.substring(i + 1) + REST, 6);
+      }
       fault("costs " + name.toUpperCase() + REST, 6);
     }
     for (String key : KEYS) {
@@ -442,6 +460,18 @@ public final class TextEdgesTest {
     good("costs not not not not not 1<1" + REST);
     good("costs not not not not not 1 or -1" + REST);
     good("costs not not not not not 1 and -1" + REST);
+    D.scene("what a FAULT left open is not open in the next text");
+    String[] opened = {"costs (((((", "costs -----", "costs not not not not not", "costs ((((((", "costs 1;falls (-"};
+    for (String open : opened) {
+      VotesOnTree x = new VotesOnTree();
+      D.due("'" + open + "'", Dues.text(x, open) <= -100 ? 1 : 0, 1);
+      D.due("five behind it", Dues.text(x, "costs " + five + ";falls -----1;worth not not not not not 1;"), 1);
+      x.force(1);
+      D.due("asks(0, 0)", x.asks(0, 0), 1);
+      D.due("asks(0, 1)", x.asks(0, 1), 0);
+      D.due("asks(0, 2)", x.asks(0, 2), 0);
+      D.due("six behind it", Dues.text(x, "costs (" + five + ")" + REST), -111);
+    }
     D.scene("each E has its own five");
     good("costs -----1;falls (((((1)))));worth not not not not not 1;");
     fault("costs -----1;falls ((((((1))))));worth 1;", 24);
