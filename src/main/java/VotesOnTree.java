@@ -115,7 +115,7 @@ public final class VotesOnTree {
             case 6: return stands;
             case 7: return bit(oak.twigsOf(stand), node);
             case 8: return stands == 0 ? NONE : bit(oak.vote(stand, oak.minds), node);
-            case 9: return stands == 0 ? 0 : oak.weight(node, oak.kidsOf(node, stand));
+            case 9: return stands == 0 ? 0 : oak.weight(node, Integer.bitCount(oak.kidSet(node, stand)));
             default: return BAD;
         }
     }
@@ -549,10 +549,11 @@ public final class VotesOnTree {
     }
 
     private boolean brings(boolean cutting, int set, int stand, int v) {
-        if (cutting) {
-            return !oak.isNested(set) && lawIfCut(set) == v;
+        if (cutting && oak.isNested(set)) {
+            return false;
         }
-        return bit(oak.vote(stand, oak.minds ^ set), TRUNK) == v;
+        int yes = cutting ? oak.vote(oak.standing(set), oak.minds) : oak.vote(stand, oak.minds ^ set);
+        return bit(yes, TRUNK) == v;
     }
 
     private void keepLaws(int twigs) {
@@ -792,10 +793,6 @@ public final class VotesOnTree {
             return kids;
         }
 
-        int kidsOf(int node, int stand) {
-            return Integer.bitCount(kidSet(node, stand));
-        }
-
         /** Whether one of the set is above another one. */
         boolean isNested(int set) {
             for (int i = 1; i < size; i++) {
@@ -865,7 +862,7 @@ public final class VotesOnTree {
             }
             row[NAME_NODE - NAME_NODE] = node;
             row[NAME_DEPTH - NAME_NODE] = Integer.bitCount(above[node]);
-            row[NAME_KIDS - NAME_NODE] = kidsOf(node, stand);
+            row[NAME_KIDS - NAME_NODE] = Integer.bitCount(kidSet(node, stand));
             row[NAME_TWIGS - NAME_NODE] = borne;
             row[NAME_LAST - NAME_NODE] = bit(lasts, node);
             row[NAME_YEAR - NAME_NODE] = year;
@@ -1052,16 +1049,14 @@ public final class VotesOnTree {
             open = 0;
             made = 0;
             next();
-            return readsPart(KEY_COSTS, COSTS) && readsPart(KEY_FALLS, FALLS) && readsPart(KEY_WORTH, WORTH)
-                    && token == TEXT_ENDS;
-        }
-
-        private boolean readsPart(int key, int part) {
-            if (!takes(key) || !readsE() || !takes(SIGN_END)) {
-                return false;
+            for (int part = 0; part < PARTS; part++) {
+                // The keys of the parts follow one another as the parts do.
+                if (!takes(KEY_COSTS + part) || !readsE() || !takes(SIGN_END)) {
+                    return false;
+                }
+                ends[part] = made;
             }
-            ends[part] = made;
-            return true;
+            return token == TEXT_ENDS;
         }
 
         private boolean readsE() {

@@ -7,7 +7,9 @@ import java.nio.file.Files;
 import java.nio.file.Paths;
 import java.util.Arrays;
 import java.util.List;
+import java.util.Map;
 import java.util.Set;
+import java.util.TreeMap;
 import java.util.TreeSet;
 import java.util.regex.Matcher;
 import java.util.regex.Pattern;
@@ -44,6 +46,7 @@ public final class RulesTest {
     }
     methodsAreShort(code);
     loopsEnd(code);
+    callsStayShallow(code);
     face();
     Class<?>[] inside = VotesOnTree.class.getDeclaredClasses();
     must(inside.length <= 12, "rule 11: classes inside");
@@ -63,15 +66,57 @@ public final class RulesTest {
         .replaceAll("'(\\\\.|[^'\\\\])'", "' '");
   }
 
-  private static void methodsAreShort(String code) {
-    Matcher m = Pattern.compile("(?m)^( +)(?:public |private |static |final )*[\\w\\[\\]<>]+ ?\\w*\\([^;{]*\\) \\{\n(.*?)^\\1\\}", Pattern.DOTALL)
+  private static Matcher methods(String code) {
+    return Pattern.compile("(?m)^( +)(?:public |private |static |final )*[\\w\\[\\]<>]+ ?\\b(\\w*)\\([^;{]*\\) \\{\n(.*?)^\\1\\}", Pattern.DOTALL)
         .matcher(code);
+  }
+
+  private static void methodsAreShort(String code) {
+    Matcher m = methods(code);
     int found = 0;
     while (m.find()) {
       found++;
-      must(m.group(2).split("\n").length <= 60, "rule 11: a long method, " + m.group().split("\n")[0].trim());
+      must(m.group(3).split("\n").length <= 60, "rule 11: a long method, " + m.group().split("\n")[0].trim());
     }
     must(found > 60, "methods found in the source: " + found);
+  }
+
+  /** By names, of which each is but once in the file: methods that call one another count as one. */
+  private static void callsStayShallow(String code) {
+    Map<String, Set<String>> calls = new TreeMap<>();
+    Matcher m = methods(code);
+    while (m.find()) {
+      Set<String> called = new TreeSet<>();
+      Matcher c = Pattern.compile("(\\w+)\\(").matcher(m.group(3));
+      while (c.find()) called.add(c.group(1));
+      must(m.group(2).isEmpty() || calls.put(m.group(2), called) == null, "two methods " + m.group(2));
+    }
+    for (Set<String> called : calls.values()) called.retainAll(calls.keySet());
+    must(calls.keySet().containsAll(Arrays.asList("cuts", "vote", "text", "readsE", "spells")), "methods found: " + calls.keySet());
+    for (String name : calls.keySet()) {
+      int deep = depth(name, calls);
+      must(deep <= 8, "rule 11: " + name + " goes " + deep + " deep");
+    }
+  }
+
+  private static Set<String> reached(String from, Map<String, Set<String>> calls) {
+    Set<String> seen = new TreeSet<>(calls.get(from));
+    for (int size = -1; size != seen.size();) {
+      size = seen.size();
+      for (String name : seen.toArray(new String[0])) seen.addAll(calls.get(name));
+    }
+    return seen;
+  }
+
+  private static int depth(String name, Map<String, Set<String>> calls) {
+    Set<String> ring = new TreeSet<>();
+    for (String other : reached(name, calls)) if (reached(other, calls).contains(name)) ring.add(other);
+    ring.add(name);
+    int most = 0;
+    for (String one : ring) {
+      for (String next : calls.get(one)) if (!ring.contains(next)) most = Math.max(most, depth(next, calls));
+    }
+    return most + 1;
   }
 
   /** A while must compare a counter; a for must have a bound. */

@@ -5,7 +5,10 @@ import java.util.Comparator;
 import java.util.List;
 import java.util.Random;
 
-/** Random runs of calls on VotesOnTree and on its twin: every answer must be alike. Argument: how many runs. */
+/**
+ * Random runs of calls on VotesOnTree and on its twin: every answer must be alike. Arguments: how many short runs, the
+ * first seed, how many long runs (each of all the 512 calls that an object is used for).
+ */
 public final class TwinTest {
   private static final int MOST_CALLS = 512;
   private static final int[] EDGES = {Integer.MIN_VALUE, Integer.MAX_VALUE, -2, -1, 40, 41, 99, 100, 101, 160, 255, 256};
@@ -26,6 +29,7 @@ public final class TwinTest {
 
   public static void main(String[] args) throws Exception {
     int runs = args.length > 0 ? Integer.parseInt(args[0]) : 1500;
+    int longRuns = args.length > 2 ? Integer.parseInt(args[2]) : 300;
     long first = args.length > 1 ? Long.parseLong(args[1]) : 1;
     List<Method> methods = new ArrayList<>();
     for (Method m : VotesOnTree.class.getDeclaredMethods()) {
@@ -34,38 +38,78 @@ public final class TwinTest {
     methods.sort(Comparator.comparing(Method::getName));
     for (long seed = first; seed < first + runs; seed++) {
       TwinTest test = new TwinTest(seed);
-      test.play(methods);
-      if (!test.alike) {
-        System.out.println("seed " + seed + ":\n" + String.join("\n", test.run));
-        System.exit(1);
-      }
+      test.playShort(methods);
+      test.mustBeAlike("short run " + seed);
     }
-    System.out.println(runs + " runs are alike");
+    for (long seed = first; seed < first + longRuns; seed++) {
+      TwinTest test = new TwinTest(~seed);
+      test.playLong(methods);
+      test.mustBeAlike("long run " + seed);
+    }
+    System.out.println(runs + " short runs, " + longRuns + " long runs are alike");
   }
 
-  private void play(List<Method> methods) throws Exception {
+  private void mustBeAlike(String name) {
+    if (!alike) {
+      System.out.println(name + ":\n" + String.join("\n", run));
+      System.exit(1);
+    }
+  }
+
+  private void playShort(List<Method> methods) throws Exception {
+    sprout(random.nextInt(12));
+    if (random.nextBoolean()) tellText();
+    for (int i = 0; i < 60 && alike; i++) {
+      step(methods);
+    }
+  }
+
+  /** Goes on till the last call that is promised; an oak that is cut bare is mended, so that it has votes till then. */
+  private void playLong(List<Method> methods) throws Exception {
+    sprout(3 + random.nextInt(6));
+    while (alike && calls < MOST_CALLS) {
+      if (random.nextInt(12) == 0) mend();
+      step(methods);
+    }
+  }
+
+  private void mend() throws Exception {
+    int sort = random.nextInt(4);
+    if (sort == 0) {
+      call("image");
+    } else if (sort == 1) {
+      call("back");
+    } else {
+      for (int node = 1; node < other.count(0); node++) {
+        if (other.told(node, 6) == 0) call("graft", node);
+      }
+      if (other.count(0) < 12) sprout(1);
+    }
+  }
+
+  private void sprout(int n) throws Exception {
     // Some oaks are broad, some deep: parents are among all nodes, or the first ones, or the last ones.
     int shape = random.nextInt(3);
-    for (int i = random.nextInt(12); i > 0; i--) {
+    for (int i = n; i > 0; i--) {
       int size = other.count(0), some = Math.min(size, 2);
       int parent = shape == 0 ? random.nextInt(size) : shape == 1 ? random.nextInt(some) : size - 1 - random.nextInt(some);
       call("grow", parent, random.nextInt(6), random.nextInt(10) * 10 * random.nextInt(2) + random.nextInt(2));
     }
-    if (random.nextBoolean()) tellText();
-    for (int i = 0; i < 60 && alike; i++) {
-      switch (random.nextInt(16)) {
-        case 0: if (random.nextBoolean()) tellText(); break;
-        case 1: call("force", random.nextInt(other.count(3))); break;
-        case 2: call("set", random.nextInt(5), anyNode(), random.nextInt(2)); break;
-        case 3: call("set", 2, anyNode(), random.nextInt(101)); break;
-        case 4: tellSheet(); break;
-        case 5: call(random.nextBoolean() ? "cut" : "graft", anyNode()); break;
-        case 6: call("set", 3, random.nextBoolean() ? 0 : anyNode(), random.nextInt(2)); break;
-        case 7:
-        case 8:
-        case 9: goodCall(); break;
-        default: anyCall(methods.get(random.nextInt(methods.size()))); break;
-      }
+  }
+
+  private void step(List<Method> methods) throws Exception {
+    switch (random.nextInt(16)) {
+      case 0: if (random.nextBoolean()) tellText(); break;
+      case 1: call("force", random.nextInt(other.count(3))); break;
+      case 2: call("set", random.nextInt(5), anyNode(), random.nextInt(2)); break;
+      case 3: call("set", 2, anyNode(), random.nextInt(101)); break;
+      case 4: tellSheet(); break;
+      case 5: call(random.nextBoolean() ? "cut" : "graft", anyNode()); break;
+      case 6: call("set", 3, random.nextBoolean() ? 0 : anyNode(), random.nextInt(2)); break;
+      case 7:
+      case 8:
+      case 9: goodCall(); break;
+      default: anyCall(methods.get(random.nextInt(methods.size()))); break;
     }
   }
 
